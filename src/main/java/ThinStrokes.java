@@ -546,15 +546,15 @@ public final class ThinStrokes {
                 for (int x = 0; x < lines.width; x++) {
                     int place = placeOf(x, y);
                     if (degreeOf(place) == 2 && takenOf(place) == 0) {
-                        follow(place, firstBit(linksOf(place)));
+                        follow(place, firstDirection(linksOf(place)));
                     }
                 }
             }
         }
 
-        private void follow(int start, int firstDirection) {
+        private void follow(int start, int away) {
             int place = start;
-            int direction = firstDirection;
+            int direction = away;
             addSample(start);
             for (int n = 0; n < samples.length; n++) {
                 take(place, direction);
@@ -567,7 +567,7 @@ public final class ThinStrokes {
                 if (degreeOf(place) != 2) {
                     break;
                 }
-                direction = firstBit(linksOf(place) & ~(1 << opposite(direction)));
+                direction = firstDirection(linksOf(place) & ~(1 << opposite(direction)));
             }
             endStroke();
         }
@@ -600,8 +600,13 @@ public final class ThinStrokes {
             }
         }
 
-        private static int firstBit(int bits) {
-            return Integer.numberOfTrailingZeros(bits) & 7;
+        private static int firstDirection(int bits) {
+            for (int d = 0; d < NEIGHBOURS; d++) {
+                if (hasBit(bits, d)) {
+                    return d;
+                }
+            }
+            return 0;
         }
 
         private static int stepFrom(int place, int direction) {

@@ -134,6 +134,8 @@ public final class PromisesTest {
         dueThin(".../###", 1, "###", "###");
         // Arms of one sample have three black neighbours, so they are no ends.
         dueThin("...../#####/.....", 1, "..#..", "#####", "..#..");
+        // The lower one comes too, but when its turn is there it is an end.
+        dueThin(".../.#./.#.", 1, ".#.", "###", ".#.");
         // A hole stays one: what is round it thins to the ring of its sides.
         ThinStrokes frame = Checks.of("###", "#.#", "###");
         CHECKS.due("thin() of a frame", frame.thin(), 1);
@@ -366,17 +368,17 @@ public final class PromisesTest {
             ".#..#..",
             ".#...#.");
         CHECKS.due("the straighter one, though it comes later", x.joined(0), 2);
-        // By three steps 2 goes -1,3 and 1 goes 1,3, equal; by two, or by four, they would differ.
+        // By three steps the right one is straighter (1,3 to -2,3); by two (2,2 to -1,2) and by four
+        // (2,4 to -1,4) the left one were.
         ThinStrokes bent = Checks.thinned(
             "...#...",
             "...#...",
             "...#...",
             "...#...",
             "..#.#..",
+            "..#..#.",
             ".#..#..",
-            "..#.#..",
-            "#.#.#..",
-            ".#..#..");
+            "..#..#.");
         CHECKS.due("the sample three steps on counts", bent.joined(0), 1);
         // The right arm is two steps long: its direction is that to its other end, 2,1.
         ThinStrokes shorter = Checks.thinned(
@@ -425,7 +427,9 @@ public final class PromisesTest {
         CHECKS.due("parts of nothing", x.parts(), 0);
         CHECKS.due("parts by corners", Checks.of("#.", ".#").parts(), 1);
         CHECKS.due("parts by corners, the other way", Checks.of(".#", "#.").parts(), 1);
-        CHECKS.due("parts apart", Checks.of("#.#", "...", "#.#").parts(), 4);
+        ThinStrokes apart = Checks.of("#.#", "...", "#.#");
+        CHECKS.due("parts apart", apart.parts(), 4);
+        CHECKS.due("parts apart, asked again", apart.parts(), 4);
         CHECKS.due("rows do not go on in the next", Checks.of("..#", "#..").parts(), 2);
         CHECKS.due("parts within a part's hole",
                 Checks.of("#####", "#...#", "#.#.#", "#...#", "#####").parts(), 2);
@@ -446,7 +450,11 @@ public final class PromisesTest {
         CHECKS.due("open by a corner alone is closed", Checks.of("##.", "#.#", "###").holes(), 1);
         CHECKS.due("a hole round a part",
                 Checks.of("#####", "#...#", "#.#.#", "#...#", "#####").holes(), 1);
-        CHECKS.due("two holes", Checks.of("#####", "#.#.#", "#####").holes(), 2);
+        ThinStrokes two = Checks.of("#####", "#.#.#", "#####");
+        CHECKS.due("two holes", two.holes(), 2);
+        CHECKS.due("two holes, asked again", two.holes(), 2);
+        two.thin();
+        CHECKS.due("two holes, thinned", two.holes(), 2);
     }
 
     private static void promise14Draw() {
@@ -458,6 +466,8 @@ public final class PromisesTest {
         CHECKS.due("nor the picture", x.told(2), 4);
         // 1,1 has its nearest white one two away, beyond: all else is nearer.
         CHECKS.due("draw() of a block of three", Checks.thinned("###", "###", "###").draw(), 0);
+        // 1,1 has its nearest white one aslant, so its disc goes to the sides and no farther.
+        CHECKS.due("draw() of a small plus", Checks.thinned(".#.", "###", ".#.").draw(), 0);
         CHECKS.due("draw() of a line", Checks.thinned("####").draw(), 0);
         CHECKS.due("draw() of nothing", Checks.thinned("..").draw(), 0);
         ThinStrokes cut = Checks.thinned(FORK);
