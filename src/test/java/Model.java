@@ -2,18 +2,20 @@ import java.util.ArrayDeque;
 import java.util.ArrayList;
 import java.util.Collections;
 import java.util.Deque;
+import java.util.HashMap;
 import java.util.HashSet;
 import java.util.LinkedHashSet;
 import java.util.List;
+import java.util.Map;
 import java.util.Set;
 import java.util.TreeMap;
 import java.util.TreeSet;
 
 /**
- * The document once more, written another way: samples are members of sets, ordered by rows, and
- * nothing is kept that can be reckoned anew. It is slow, and there to be compared with.
+ * The document once more, written another way: samples are members of sets, ordered by rows. It is
+ * slow, and there to be compared with.
  */
-final class Model {
+final class Model implements Face {
     record Sample(int y, int x) implements Comparable<Sample> {
         public int compareTo(Sample other) {
             return y != other.y ? Integer.compare(y, other.y) : Integer.compare(x, other.x);
@@ -34,22 +36,52 @@ final class Model {
         }
     }
 
-    final int width;
-    final int height;
-    final TreeSet<Sample> picture = new TreeSet<>();
-    TreeSet<Sample> lines = new TreeSet<>();
-    boolean thinned = false;
+    private final int width;
+    private final int height;
+    private final TreeSet<Sample> picture = new TreeSet<>();
+    private final Map<Sample, Long> distances = new HashMap<>();
+    private TreeSet<Sample> lines = new TreeSet<>();
+    private List<List<Sample>> strokes = null;
+    private boolean thinned = false;
 
     Model(int width, int height) {
         this.width = width < 1 ? 1 : width > 24 ? 24 : width;
         this.height = height < 1 ? 1 : height > 24 ? 24 : height;
     }
 
-    boolean put(int x, int y, boolean on) {
+    private void requireSample(int x, int y) {
+        if (x < 0 || x >= width || y < 0 || y >= height) {
+            throw new IndexOutOfBoundsException();
+        }
+    }
+
+    private void requireThinned() {
+        if (!thinned) {
+            throw new IllegalStateException();
+        }
+    }
+
+    private <T> T oneOf(List<T> list, int k) {
+        if (k < 0 || k >= list.size()) {
+            throw new IndexOutOfBoundsException();
+        }
+        return list.get(k);
+    }
+
+    @Override
+    public boolean put(int x, int y, boolean on) {
+        requireSample(x, y);
         boolean changed = on ? picture.add(new Sample(y, x)) : picture.remove(new Sample(y, x));
         lines = new TreeSet<>(picture);
         thinned = false;
+        distances.clear();
         return changed;
+    }
+
+    @Override
+    public boolean at(int x, int y) {
+        requireSample(x, y);
+        return lines.contains(new Sample(y, x));
     }
 
     private boolean end(Sample s) {
@@ -86,16 +118,18 @@ final class Model {
         return took;
     }
 
-    int thin() {
+    @Override
+    public int thin() {
         int passes = 0;
         while (half(0, 6) | half(4, 2)) {
             passes++;
         }
         thinned = true;
+        strokes = null;
         return passes;
     }
 
-    boolean linked(Sample a, Sample b) {
+    private boolean linked(Sample a, Sample b) {
         if (!lines.contains(a) || !lines.contains(b)) {
             return false;
         }
@@ -106,19 +140,23 @@ final class Model {
         return corner && !lines.contains(new Sample(a.y, b.x)) && !lines.contains(new Sample(b.y, a.x));
     }
 
-    List<Sample> linksOf(Sample s) {
+    private List<Sample> linksOf(Sample s) {
         return s.round().stream().filter(o -> linked(s, o)).toList();
     }
 
-    int degree(Sample s) {
+    private int degree(Sample s) {
         return linksOf(s).size();
     }
 
-    List<Sample> crossings() {
-        return lines.stream().filter(s -> degree(s) >= 3).toList();
+    private List<List<Sample>> allStrokes() {
+        requireThinned();
+        if (strokes == null) {
+            strokes = follow();
+        }
+        return strokes;
     }
 
-    List<List<Sample>> strokes() {
+    private List<List<Sample>> follow() {
         List<List<Sample>> all = new ArrayList<>();
         Set<Set<Sample>> used = new HashSet<>();
         Set<Sample> inStroke = new HashSet<>();
@@ -162,14 +200,45 @@ final class Model {
         return all;
     }
 
-    static Sample last(List<Sample> stroke) {
+    private static Sample last(List<Sample> stroke) {
         return stroke.get(stroke.size() - 1);
     }
 
-    int prune(int length) {
+    @Override
+    public int strokes() {
+        return allStrokes().size();
+    }
+
+    @Override
+    public int points(int stroke) {
+        return oneOf(allStrokes(), stroke).size();
+    }
+
+    @Override
+    public int place(int stroke, int k, int axis) {
+        Sample s = oneOf(oneOf(allStrokes(), stroke), k);
+        return oneOf(List.of(s.x, s.y), axis);
+    }
+
+    @Override
+    public int crossing(int k, int what) {
+        requireThinned();
+        Sample s = oneOf(lines.stream().filter(o -> degree(o) >= 3).toList(), k);
+        if (what < 0 || what > 2) {
+            throw new IllegalArgumentException();
+        }
+        return List.of(s.x, s.y, degree(s)).get(what);
+    }
+
+    @Override
+    public int prune(int length) {
+        requireThinned();
+        if (length < 0 || length > 600) {
+            throw new IllegalArgumentException();
+        }
         int before = lines.size();
         List<List<Sample>> cut = new ArrayList<>();
-        for (List<Sample> stroke : strokes()) {
+        for (List<Sample> stroke : allStrokes()) {
             List<Sample> turned = new ArrayList<>(stroke);
             if (degree(turned.get(0)) != 1) {
                 Collections.reverse(turned);
@@ -183,6 +252,7 @@ final class Model {
                 stroke.subList(0, stroke.size() - 1).forEach(lines::remove);
             }
         }
+        strokes = null;
         return before - lines.size();
     }
 
@@ -195,9 +265,10 @@ final class Model {
         return new int[] {ahead.x - crossing.x, ahead.y - crossing.y};
     }
 
-    int joined(int stroke) {
-        List<List<Sample>> all = strokes();
-        Sample crossing = last(all.get(stroke));
+    @Override
+    public int joined(int stroke) {
+        List<List<Sample>> all = allStrokes();
+        Sample crossing = last(oneOf(all, stroke));
         if (degree(crossing) < 3) {
             return -1;
         }
@@ -219,19 +290,27 @@ final class Model {
         return byAngle.isEmpty() ? -1 : byAngle.lastEntry().getValue();
     }
 
-    long distance2(int x, int y) {
+    @Override
+    public long distance2(int x, int y) {
+        requireSample(x, y);
+        return distances.computeIfAbsent(new Sample(y, x), this::nearestWhite2);
+    }
+
+    private long nearestWhite2(Sample s) {
         long nearest = Long.MAX_VALUE;
         for (int row = -1; row <= height; row++) {
             for (int column = -1; column <= width; column++) {
                 if (!picture.contains(new Sample(row, column))) {
-                    nearest = Math.min(nearest, new Sample(y, x).square(new Sample(row, column)));
+                    nearest = Math.min(nearest, s.square(new Sample(row, column)));
                 }
             }
         }
         return nearest;
     }
 
-    int draw() {
+    @Override
+    public int draw() {
+        requireThinned();
         Set<Sample> bare = new HashSet<>(picture);
         for (Sample s : lines) {
             long near = distance2(s.x, s.y);
@@ -240,12 +319,14 @@ final class Model {
         return bare.size();
     }
 
-    int parts() {
+    @Override
+    public int parts() {
         return groups(new TreeSet<>(lines), false);
     }
 
     // The white of the picture with a frame of what is beyond, whose group is no hole.
-    int holes() {
+    @Override
+    public int holes() {
         TreeSet<Sample> white = new TreeSet<>();
         for (int row = -1; row <= height; row++) {
             for (int column = -1; column <= width; column++) {
@@ -273,9 +354,17 @@ final class Model {
         return count;
     }
 
-    void clear() {
+    @Override
+    public int told(int what) {
+        int[] all = {width, height, picture.size(), lines.size(), thinned ? 1 : 0};
+        return what < 0 || what >= all.length ? -1 : all[what];
+    }
+
+    @Override
+    public void clear() {
         picture.clear();
         lines.clear();
+        distances.clear();
         thinned = false;
     }
 }

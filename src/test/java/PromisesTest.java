@@ -49,7 +49,7 @@ public final class PromisesTest {
     }
 
     private static void dueSize(int width, int height, int columns, int rows) {
-        ThinStrokes x = new ThinStrokes(width, height);
+        Subject x = new Subject(width, height);
         String of = "new (" + width + ", " + height + ")";
         CHECKS.due(of + " width", x.told(0), columns);
         CHECKS.due(of + " height", x.told(1), rows);
@@ -73,7 +73,7 @@ public final class PromisesTest {
     }
 
     private static void promise2Put() {
-        ThinStrokes x = new ThinStrokes(24, 3);
+        Subject x = new Subject(24, 3);
         CHECKS.due("put white on white", x.put(0, 0, false), false);
         CHECKS.due("put black on white", x.put(23, 2, true), true);
         CHECKS.due("it is black", x.at(23, 2), true);
@@ -91,7 +91,7 @@ public final class PromisesTest {
     }
 
     private static void putUndoesThinning() {
-        ThinStrokes x = Checks.of("###", "###", "###");
+        Subject x = Checks.of("###", "###", "###");
         x.thin();
         CHECKS.dueBounds("put that throws", () -> x.put(3, 3, true));
         CHECKS.due("leaves it thinned", x.told(4), 1);
@@ -105,7 +105,7 @@ public final class PromisesTest {
     }
 
     private static void dueThin(String want, int passes, String... rows) {
-        ThinStrokes x = Checks.of(rows);
+        Subject x = Checks.of(rows);
         String name = String.join("/", rows);
         CHECKS.due("thin() of " + name, x.thin(), passes);
         CHECKS.due("lines of " + name, Checks.linesOf(x), want);
@@ -137,21 +137,18 @@ public final class PromisesTest {
         // The lower one comes too, but when its turn is there it is an end.
         dueThin(".../.#./.#.", 1, ".#.", "###", ".#.");
         // A hole stays one: what is round it thins to the ring of its sides.
-        ThinStrokes frame = Checks.of("###", "#.#", "###");
+        Subject frame = Checks.of("###", "#.#", "###");
         CHECKS.due("thin() of a frame", frame.thin(), 1);
         CHECKS.due("lines of a frame", Checks.linesOf(frame), ".#./#.#/.#.");
         CHECKS.due("holes of a frame", frame.holes(), 1);
         // Each pass takes a layer.
-        ThinStrokes block = new ThinStrokes(9, 9);
-        for (int n = 0; n < 81; n++) {
-            block.put(n % 9, n / 9, true);
-        }
+        Subject block = Checks.full(9, 9);
         CHECKS.due("thin() of a block of nine", block.thin(), 4);
         CHECKS.due("parts of a block of nine", block.parts(), 1);
     }
 
     private static void promise4At() {
-        ThinStrokes x = Checks.thinned("##", "##");
+        Subject x = Checks.thinned("##", "##");
         CHECKS.due("at, gone from the lines", x.at(0, 0), false);
         CHECKS.due("at, left in the lines", x.at(0, 1), true);
         CHECKS.due("the picture has it still", x.told(2), 4);
@@ -164,7 +161,7 @@ public final class PromisesTest {
     }
 
     private static void promise5Prune() {
-        ThinStrokes x = Checks.of(FORK);
+        Subject x = Checks.of(FORK);
         CHECKS.dueState("prune(3), not thinned", () -> x.prune(3));
         CHECKS.dueState("prune(-1), not thinned", () -> x.prune(-1));
         x.thin();
@@ -186,18 +183,18 @@ public final class PromisesTest {
     private static void promise5PruneOneAfterTheOther() {
         // Arms above, left and right of 3 and below of 2: above and left come before the crossing,
         // and when they went, it is one no more.
-        ThinStrokes plus = Checks.thinned(PLUS);
+        Subject plus = Checks.thinned(PLUS);
         CHECKS.due("prune(3) of a plus", plus.prune(3), 2);
         CHECKS.due("its crossing has 3 left", plus.crossing(0, 2), 3);
         CHECKS.due("prune(600) of the rest", plus.prune(600), 3);
         CHECKS.due("the rest", Checks.linesOf(plus),
                 "......./......./......./#######/......./......./.......");
-        ThinStrokes whole = Checks.thinned(PLUS);
+        Subject whole = Checks.thinned(PLUS);
         CHECKS.due("prune(4) of a plus", whole.prune(4), 6);
         CHECKS.due("above and left went", Checks.linesOf(whole),
                 "......./......./......./...####/...#.../...#.../.......");
         // A short stroke between two crossings has no end; a ring at a crossing neither.
-        ThinStrokes bridge = Checks.thinned(
+        Subject bridge = Checks.thinned(
             "#.....#",
             ".#...#.",
             "..###..",
@@ -210,7 +207,7 @@ public final class PromisesTest {
     }
 
     private static void promise6Strokes() {
-        ThinStrokes x = new ThinStrokes(5, 5);
+        Subject x = new Subject(5, 5);
         CHECKS.dueState("strokes(), never thinned", x::strokes);
         x.thin();
         CHECKS.due("strokes of nothing", x.strokes(), 0);
@@ -222,7 +219,7 @@ public final class PromisesTest {
         CHECKS.due("strokes of a plus", Checks.thinned(PLUS).strokes(), 4);
         CHECKS.due("strokes of a ring", Checks.thinned(RING).strokes(), 1);
         // Rings come after what has nodes, whichever row they begin in.
-        ThinStrokes ringAndDot = Checks.thinned(
+        Subject ringAndDot = Checks.thinned(
             ".#...",
             "#.#..",
             ".#..#");
@@ -230,14 +227,14 @@ public final class PromisesTest {
         CHECKS.due("the dot", Checks.strokeOf(ringAndDot, 0), "4,2");
         CHECKS.due("the ring", Checks.strokeOf(ringAndDot, 1), "1,0 2,1 1,2 0,1");
         // A dot is a stroke where its row comes.
-        ThinStrokes dotAndLine = Checks.thinned("....#", ".....", "##..#", "....#");
+        Subject dotAndLine = Checks.thinned("....#", ".....", "##..#", "....#");
         CHECKS.due("a dot first", Checks.strokeOf(dotAndLine, 0), "4,0");
         CHECKS.due("a line then", Checks.strokeOf(dotAndLine, 1), "0,2 1,2");
         CHECKS.due("another one then", Checks.strokeOf(dotAndLine, 2), "4,2 4,3");
     }
 
     private static void promise7Points() {
-        ThinStrokes x = Checks.of(FORK);
+        Subject x = Checks.of(FORK);
         CHECKS.dueState("points(0), not thinned", () -> x.points(0));
         CHECKS.dueState("points(-1), not thinned", () -> x.points(-1));
         x.thin();
@@ -254,7 +251,7 @@ public final class PromisesTest {
     }
 
     private static void promise8Place() {
-        ThinStrokes x = Checks.of(FORK);
+        Subject x = Checks.of(FORK);
         CHECKS.dueState("place(0, 0, 0), not thinned", () -> x.place(0, 0, 0));
         CHECKS.dueState("place(9, 9, 9), not thinned", () -> x.place(9, 9, 9));
         x.thin();
@@ -276,7 +273,7 @@ public final class PromisesTest {
     }
 
     private static void promise9Distance2() {
-        ThinStrokes x = new ThinStrokes(5, 5);
+        Subject x = new Subject(5, 5);
         CHECKS.due("distance2 of a white one", x.distance2(2, 2), 0L);
         for (int n = 0; n < 25; n++) {
             x.put(n % 5, n / 5, true);
@@ -297,19 +294,11 @@ public final class PromisesTest {
             CHECKS.dueBounds("distance2(wild, 0)", () -> x.distance2(wild, 0));
             CHECKS.dueBounds("distance2(0, wild)", () -> x.distance2(0, wild));
         }
-        CHECKS.due("distance2 in the middle of the largest", largest().distance2(12, 11), 144L);
-    }
-
-    private static ThinStrokes largest() {
-        ThinStrokes x = new ThinStrokes(24, 24);
-        for (int n = 0; n < 576; n++) {
-            x.put(n % 24, n / 24, true);
-        }
-        return x;
+        CHECKS.due("distance2 in the middle of a full one", Checks.full(24, 21).distance2(12, 10), 121L);
     }
 
     private static void promise10Crossing() {
-        ThinStrokes x = Checks.of(PLUS);
+        Subject x = Checks.of(PLUS);
         CHECKS.dueState("crossing(0, 0), not thinned", () -> x.crossing(0, 0));
         x.thin();
         CHECKS.due("crossing column", x.crossing(0, 0), 3);
@@ -322,7 +311,7 @@ public final class PromisesTest {
             CHECKS.dueArgument("crossing(0, wild)", () -> x.crossing(0, wild));
         }
         // Two in one row come by their columns, one in a row above comes first.
-        ThinStrokes more = Checks.thinned(
+        Subject more = Checks.thinned(
             "..........#.#",
             "#.....#....#.",
             ".#...#.....#.",
@@ -339,7 +328,7 @@ public final class PromisesTest {
     }
 
     private static void promise11Joined() {
-        ThinStrokes x = Checks.of(FORK);
+        Subject x = Checks.of(FORK);
         CHECKS.dueState("joined(0), not thinned", () -> x.joined(0));
         x.thin();
         CHECKS.due("of equal ones the first", x.joined(0), 1);
@@ -350,7 +339,7 @@ public final class PromisesTest {
         }
         CHECKS.due("joined of a ring", Checks.thinned(RING).joined(0), ThinStrokes.NONE);
         CHECKS.due("joined of a dot", Checks.thinned("#").joined(0), ThinStrokes.NONE);
-        ThinStrokes plus = Checks.thinned(PLUS);
+        Subject plus = Checks.thinned(PLUS);
         CHECKS.due("above goes on below", plus.joined(0), 3);
         CHECKS.due("left goes on right", plus.joined(1), 2);
         plus.prune(3);
@@ -359,7 +348,7 @@ public final class PromisesTest {
     }
 
     private static void promise11JoinedByAngle() {
-        ThinStrokes x = Checks.thinned(
+        Subject x = Checks.thinned(
             "..#....",
             "..#....",
             "..#....",
@@ -370,7 +359,7 @@ public final class PromisesTest {
         CHECKS.due("the straighter one, though it comes later", x.joined(0), 2);
         // By three steps the right one is straighter (1,3 to -2,3); by two (2,2 to -1,2) and by four
         // (2,4 to -1,4) the left one were.
-        ThinStrokes bent = Checks.thinned(
+        Subject bent = Checks.thinned(
             "...#...",
             "...#...",
             "...#...",
@@ -381,7 +370,7 @@ public final class PromisesTest {
             "..#..#.");
         CHECKS.due("the sample three steps on counts", bent.joined(0), 1);
         // The right arm is two steps long: its direction is that to its other end, 2,1.
-        ThinStrokes shorter = Checks.thinned(
+        Subject shorter = Checks.thinned(
             "#......",
             ".#.....",
             "..#....",
@@ -393,7 +382,7 @@ public final class PromisesTest {
     }
 
     // A loop that leaves its crossing at 4,4 above right, comes back from the left, and a stem.
-    private static ThinStrokes loopWithStemBelow() {
+    private static Subject loopWithStemBelow() {
         return Checks.thinned(
             "..###..",
             ".#...#.",
@@ -406,9 +395,9 @@ public final class PromisesTest {
     }
 
     private static void promise11JoinedOfLoops() {
-        ThinStrokes below = loopWithStemBelow();
+        Subject below = loopWithStemBelow();
         CHECKS.due("a loop's direction is where it begins", below.joined(0), 1);
-        ThinStrokes above = Checks.thinned(
+        Subject above = Checks.thinned(
             "....#..",
             "....#..",
             "....#..",
@@ -423,25 +412,25 @@ public final class PromisesTest {
     }
 
     private static void promise12Parts() {
-        ThinStrokes x = new ThinStrokes(4, 4);
+        Subject x = new Subject(4, 4);
         CHECKS.due("parts of nothing", x.parts(), 0);
         CHECKS.due("parts by corners", Checks.of("#.", ".#").parts(), 1);
         CHECKS.due("parts by corners, the other way", Checks.of(".#", "#.").parts(), 1);
-        ThinStrokes apart = Checks.of("#.#", "...", "#.#");
+        Subject apart = Checks.of("#.#", "...", "#.#");
         CHECKS.due("parts apart", apart.parts(), 4);
         CHECKS.due("parts apart, asked again", apart.parts(), 4);
         CHECKS.due("rows do not go on in the next", Checks.of("..#", "#..").parts(), 2);
         CHECKS.due("parts within a part's hole",
                 Checks.of("#####", "#...#", "#.#.#", "#...#", "#####").parts(), 2);
-        CHECKS.due("parts of all", largest().parts(), 1);
-        ThinStrokes cut = Checks.thinned(FORK);
+        CHECKS.due("parts of all", Checks.full(24, 21).parts(), 1);
+        Subject cut = Checks.thinned(FORK);
         cut.prune(3);
         CHECKS.due("parts are those of the lines", cut.parts(), 1);
     }
 
     private static void promise13Holes() {
-        CHECKS.due("holes of nothing", new ThinStrokes(4, 4).holes(), 0);
-        CHECKS.due("holes of all", largest().holes(), 0);
+        CHECKS.due("holes of nothing", new Subject(4, 4).holes(), 0);
+        CHECKS.due("holes of all", Checks.full(24, 21).holes(), 0);
         CHECKS.due("a hole", Checks.of("###", "#.#", "###").holes(), 1);
         CHECKS.due("closed by corners", Checks.of(RING).holes(), 1);
         CHECKS.due("white hangs not by corners", Checks.of("####", "#.##", "##.#", "####").holes(), 2);
@@ -450,7 +439,7 @@ public final class PromisesTest {
         CHECKS.due("open by a corner alone is closed", Checks.of("##.", "#.#", "###").holes(), 1);
         CHECKS.due("a hole round a part",
                 Checks.of("#####", "#...#", "#.#.#", "#...#", "#####").holes(), 1);
-        ThinStrokes two = Checks.of("#####", "#.#.#", "#####");
+        Subject two = Checks.of("#####", "#.#.#", "#####");
         CHECKS.due("two holes", two.holes(), 2);
         CHECKS.due("two holes, asked again", two.holes(), 2);
         two.thin();
@@ -458,7 +447,7 @@ public final class PromisesTest {
     }
 
     private static void promise14Draw() {
-        ThinStrokes x = Checks.of("##", "##");
+        Subject x = Checks.of("##", "##");
         CHECKS.dueState("draw(), not thinned", x::draw);
         x.thin();
         CHECKS.due("as far as the nearest white one is in no disc", x.draw(), 2);
@@ -470,13 +459,13 @@ public final class PromisesTest {
         CHECKS.due("draw() of a small plus", Checks.thinned(".#.", "###", ".#.").draw(), 0);
         CHECKS.due("draw() of a line", Checks.thinned("####").draw(), 0);
         CHECKS.due("draw() of nothing", Checks.thinned("..").draw(), 0);
-        ThinStrokes cut = Checks.thinned(FORK);
+        Subject cut = Checks.thinned(FORK);
         cut.prune(3);
         CHECKS.due("what was cut off is in no disc", cut.draw(), 2);
     }
 
     private static void promise15Told() {
-        ThinStrokes x = Checks.of("##.", "##.");
+        Subject x = Checks.of("##.", "##.");
         CHECKS.due("told(0)", x.told(0), 3);
         CHECKS.due("told(1)", x.told(1), 2);
         CHECKS.due("told(2)", x.told(2), 4);
@@ -493,8 +482,8 @@ public final class PromisesTest {
     }
 
     private static void promise16Clear() {
-        ThinStrokes x = Checks.thinned(FORK);
-        String fresh = Checks.allOf(new ThinStrokes(5, 5));
+        Subject x = Checks.thinned(FORK);
+        String fresh = Checks.allOf(new Subject(5, 5));
         x.clear();
         CHECKS.due("all is as at first", Checks.allOf(x), fresh);
         CHECKS.dueState("not thinned", x::strokes);
@@ -502,13 +491,13 @@ public final class PromisesTest {
         CHECKS.due("strokes after clear", x.strokes(), 0);
         CHECKS.due("put after clear", x.put(2, 0, true), true);
         CHECKS.due("nothing else comes back", x.told(3), 1);
-        ThinStrokes thick = Checks.of("##", "##");
+        Subject thick = Checks.of("##", "##");
         thick.clear();
-        CHECKS.due("clear of what is not thinned", Checks.allOf(thick), Checks.allOf(new ThinStrokes(2, 2)));
+        CHECKS.due("clear of what is not thinned", Checks.allOf(thick), Checks.allOf(new Subject(2, 2)));
     }
 
     private static void whichExceptionComesFirst() {
-        ThinStrokes x = Checks.of(PLUS);
+        Subject x = Checks.of(PLUS);
         CHECKS.dueState("state before bounds, points", () -> x.points(99));
         CHECKS.dueState("state before bounds, place", () -> x.place(0, -1, 7));
         CHECKS.dueState("state before bounds, joined", () -> x.joined(-1));
