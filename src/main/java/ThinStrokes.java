@@ -365,9 +365,12 @@ public final class ThinStrokes {
             int count = 0;
             for (int y = 0; y < lines.height; y++) {
                 for (int x = 0; x < lines.width; x++) {
+                    if (!lines.isBlack(x, y)) {
+                        continue;
+                    }
                     int round = lines.blackRound(x, y);
                     boolean open = !hasBit(round, side) || !hasBit(round, otherSide);
-                    if (lines.isBlack(x, y) && open && mayGo(round) && count < coming.length) {
+                    if (open && mayGo(round) && count < coming.length) {
                         coming[count] = placeOf(x, y);
                         count++;
                     }
